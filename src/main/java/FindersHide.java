@@ -399,7 +399,11 @@ public final class FindersHide {
         }
 
         private boolean readsPlace(Town t) {
-            if (t.places >= MOST_PLACES || !readsNumber(1, MOST_HARD)) {
+            if (t.places >= MOST_PLACES) {
+                return false;
+            }
+            readToken();
+            if (!isNumber(1, MOST_HARD)) {
                 return false;
             }
             t.addPlace(number);
@@ -408,7 +412,11 @@ public final class FindersHide {
         }
 
         private boolean readsSeeker(Town t) {
-            if (t.seekers >= MOST_SEEKERS || !readsNumber(0, MOST_MINUTES)) {
+            if (t.seekers >= MOST_SEEKERS) {
+                return false;
+            }
+            readToken();
+            if (!isNumber(0, MOST_MINUTES)) {
                 return false;
             }
             t.addSeeker(number);
@@ -426,27 +434,34 @@ public final class FindersHide {
         }
 
         private boolean readsRing(Town t) {
-            if (ringTold || !readsNumber(0, t.places - 1)) {
+            if (ringTold) {
                 return false;
             }
             ringTold = true;
+            readToken();
+            if (!isNumber(0, t.places - 1)) {
+                return false;
+            }
             t.ring = number;
             readToken();
             return true;
         }
 
         private boolean readsLaw(Town t) {
-            if (lawTold || !readsNumber(NEAR, BY_LOT)) {
+            if (lawTold) {
                 return false;
             }
             lawTold = true;
+            readToken();
+            if (!isNumber(NEAR, BY_LOT)) {
+                return false;
+            }
             t.law = number;
             readToken();
             return true;
         }
 
-        private boolean readsNumber(int least, int most) {
-            readToken();
+        private boolean isNumber(int least, int most) {
             return token == NUMBER && number >= least && number <= most;
         }
 
@@ -755,12 +770,15 @@ public final class FindersHide {
             }
             lot = lot * 1103515245 + 12345;
             int ahead = (lot >>> 16) % many;
-            int p = 0;
-            while (p < MOST_PLACES - 1 && ((places >> p & 1) == 0 || ahead > 0)) {
-                ahead -= places >> p & 1;
-                p++;
+            for (int p = 0; p < MOST_PLACES; p++) {
+                if ((places >> p & 1) != 0) {
+                    if (ahead == 0) {
+                        return p;
+                    }
+                    ahead--;
+                }
             }
-            return p;
+            return ring;
         }
 
         int hadByAll() {
