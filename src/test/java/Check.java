@@ -42,6 +42,15 @@ final class Check {
         return x;
     }
 
+    /** The text that tells PLACES, each so HARD. */
+    static String places(int... hard) {
+        StringBuilder b = new StringBuilder();
+        for (int h : hard) {
+            b.append("place ").append(h).append(';');
+        }
+        return b.toString();
+    }
+
     /** What town() answers to a text. */
     static int read(String text) {
         FindersHide x = new FindersHide();
