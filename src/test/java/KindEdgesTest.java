@@ -12,6 +12,7 @@ final class KindEdgesTest {
     public static void main(String[] args) {
         theConstants();
         newObject();
+        upToTheLastCall();
         marksAtTheirLeast();
         marksAtTheirMost();
         marksOfEachSeeker();
@@ -53,6 +54,16 @@ final class KindEdgesTest {
             Setups.allFull();
             return new FindersHide();
         }, FindersHide::new);
+    }
+
+    /** An object is used for 512 calls: the last is answered as the first. */
+    private static void upToTheLastCall() {
+        FindersHide x = Check.told("place 1;place 1;seeker 1 0;law 1;");
+        // Five calls of type and one of town went ahead.
+        for (int call = 6; call < 511; call++) {
+            due("found", x.looks(0, call % 2), (call + 1) % 2);
+        }
+        due("call 512", x.now(3), 505);
     }
 
     // ---- marks
