@@ -121,5 +121,22 @@ final class LanguageTest {
         while (imports.find()) {
             Check.due("import " + imports.group(1), imports.group(1).equals("java.util.Arrays") ? 1 : 0, 1);
         }
+        checkMadeOnce(code);
+    }
+
+    /** All calls of a run live in one room, so what is made is made with the object: in fields and its constructor. */
+    private static void checkMadeOnce(String code) {
+        int from = code.indexOf("    public FindersHide() {");
+        int to = code.indexOf("\n    }\n", from);
+        Check.due("the constructor is there", from >= 0 && to > from ? 1 : 0, 1);
+        Pattern makes = Pattern.compile("\\bnew\\b|\\.clone\\(|Arrays\\.copyOf");
+        // A field of the class, or of a class inside it; in a method stands neither word so far to the left.
+        Pattern field = Pattern.compile("    (private|    private|    final) .* = new [^;]*;");
+        String rest = code.substring(0, Math.max(0, from)) + code.substring(Math.max(0, to));
+        for (String line : rest.split("\n")) {
+            if (makes.matcher(line).find()) {
+                Check.due("made with the object: " + line, field.matcher(line).matches() ? 1 : 0, 1);
+            }
+        }
     }
 }
